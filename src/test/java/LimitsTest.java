@@ -7,6 +7,7 @@ public final class LimitsTest {
 
     public static void main(String[] args) {
         sizes();
+        sizesOfAny();
         rulesTogether();
         mostNodes();
         tooManyNodes();
@@ -18,19 +19,12 @@ public final class LimitsTest {
         CHECK.end();
     }
 
-    private static int recordOf(RuleTree x, int n, int given, int pattern) {
-        for (int field = 0; field < given; field++) {
-            x.push(field, pattern);
-        }
-        return x.record(n);
-    }
-
     private static void sizes() {
         CHECK.about("sizes");
         RuleTree x = new RuleTree();
         int leaf = x.constant(0, 5);
-        int size99 = recordOf(x, 98, 98, leaf);
-        int size10000 = recordOf(x, 101, 101, size99);
+        int size99 = Make.recordOf(x, 98, 98, leaf);
+        int size10000 = Make.recordOf(x, 101, 101, size99);
         CHECK.due("a pattern of size 10,000", size10000, 2);
         x.family(2, 2);
         CHECK.due("name of it", x.name(0, size10000), -2);
@@ -43,20 +37,37 @@ public final class LimitsTest {
         CHECK.due("no pattern was made", x.count(1), 3);
         CHECK.due("any() goes on", x.any(), 3);
         CHECK.due("forget()", x.forget(), 4);
+        x.any();
+        x.any();
+        x.any();
+        CHECK.due("sizes are forgotten too", x.name(0, 2), 3);
+        x.forget();
         int bare = x.record(128);
-        int bare99 = recordOf(x, 128, 98, bare);
-        CHECK.due("fields without a pattern weigh nothing", recordOf(x, 128, 101, bare99), 2);
+        int bare99 = Make.recordOf(x, 128, 98, bare);
+        CHECK.due("fields without a pattern weigh nothing", Make.recordOf(x, 128, 101, bare99), 2);
+    }
+
+    private static void sizesOfAny() {
+        CHECK.about("sizes of ANY");
+        RuleTree x = new RuleTree();
+        int size99 = Make.recordOf(x, 98, 98, x.any());
+        int size10000 = Make.recordOf(x, 101, 101, size99);
+        CHECK.due("a pattern of size 10,000", size10000, 2);
+        CHECK.due("name of it", x.name(0, size10000), -2);
+        x.forget();
+        int name = x.name(0, x.name(1, -1));
+        CHECK.due("an argument weighs", Make.recordOf(x, 128, 77, Make.recordOf(x, 128, 65, name)), -2);
     }
 
     private static void rulesTogether() {
         CHECK.about("rules' sizes");
         RuleTree x = new RuleTree();
         int leaf = x.constant(0, 5);
-        int size99 = recordOf(x, 98, 98, leaf);
-        int size47 = recordOf(x, 98, 46, leaf);
-        int size10000 = recordOf(x, 101, 101, size99);
+        int size99 = Make.recordOf(x, 98, 98, leaf);
+        int size47 = Make.recordOf(x, 98, 46, leaf);
+        int size10000 = Make.recordOf(x, 101, 101, size99);
         x.push(100, size47);
-        int size6384 = recordOf(x, 101, 64, size99);
+        int size6384 = Make.recordOf(x, 101, 64, size99);
         x.push(99, leaf);
         int any = x.any();
         CHECK.due("rule of 10,000", x.rule(size10000), 0);
@@ -77,11 +88,11 @@ public final class LimitsTest {
         RuleTree x = new RuleTree();
         x.family(1, 1);
         int leaf = x.constant(0, 1);
-        int all = recordOf(x, 128, 128, leaf);
-        int some = recordOf(x, 128, 127, leaf);
+        int all = Make.recordOf(x, 128, 128, leaf);
+        int some = Make.recordOf(x, 128, 127, leaf);
         x.push(15, some);
-        int pattern = x.built(0, 0, recordOf(x, 16, 15, all));
-        int value = x.built(0, 0, recordOf(x, 16, 16, all));
+        int pattern = x.built(0, 0, Make.recordOf(x, 16, 15, all));
+        int value = x.built(0, 0, Make.recordOf(x, 16, 16, all));
         x.rule(pattern);
         CHECK.due("grow()", x.grow(), 4096);
         CHECK.due("count(4)", x.count(4), 4096);
@@ -99,7 +110,7 @@ public final class LimitsTest {
     private static void tooManyNodes() {
         CHECK.about("4,097 nodes");
         RuleTree x = new RuleTree();
-        int pattern = recordOf(x, 16, 16, recordOf(x, 128, 128, x.constant(0, 1)));
+        int pattern = Make.recordOf(x, 16, 16, Make.recordOf(x, 128, 128, x.constant(0, 1)));
         x.rule(x.any());
         x.grow();
         CHECK.due("a tree: count(4)", x.count(4), 1);

@@ -18,16 +18,6 @@ public final class RulesTest {
         CHECK.end();
     }
 
-    private static int pair(RuleTree x, int left, int right) {
-        if (left != RuleTree.NONE) {
-            x.push(0, left);
-        }
-        if (right != RuleTree.NONE) {
-            x.push(1, right);
-        }
-        return x.record(2);
-    }
-
     private static void rules() {
         CHECK.about("promise 9");
         RuleTree x = new RuleTree();
@@ -89,13 +79,13 @@ public final class RulesTest {
         RuleTree x = new RuleTree();
         int number = x.constant(0, 1);
         int letter = x.constant(1, 1);
-        CHECK.due("(number, _)", x.rule(pair(x, number, -1)), 0);
-        CHECK.due("(_, letter)", x.rule(pair(x, -1, letter)), 1);
-        CHECK.due("(_, _)", x.rule(pair(x, -1, -1)), 2);
-        CHECK.due("(letter, _)", x.rule(pair(x, letter, -1)), -1);
-        CHECK.due("(number, number)", x.rule(pair(x, number, number)), -1);
-        CHECK.due("(_, number)", x.rule(pair(x, -1, number)), -1);
-        CHECK.due("(number, letter)", x.rule(pair(x, number, letter)), 3);
+        CHECK.due("(number, _)", x.rule(Make.pair(x, number, -1)), 0);
+        CHECK.due("(_, letter)", x.rule(Make.pair(x, -1, letter)), 1);
+        CHECK.due("(_, _)", x.rule(Make.pair(x, -1, -1)), 2);
+        CHECK.due("(letter, _)", x.rule(Make.pair(x, letter, -1)), -1);
+        CHECK.due("(number, number)", x.rule(Make.pair(x, number, number)), -1);
+        CHECK.due("(_, number)", x.rule(Make.pair(x, -1, number)), -1);
+        CHECK.due("(number, letter)", x.rule(Make.pair(x, number, letter)), 3);
     }
 
     private static void cleared() {
@@ -189,13 +179,13 @@ public final class RulesTest {
         RuleTree x = new RuleTree();
         int one = x.constant(0, 1);
         int two = x.constant(0, 2);
-        x.rule(pair(x, one, -1));
-        x.rule(pair(x, -1, one));
-        x.rule(pair(x, -1, -1));
-        CHECK.due("(1, 2)", x.first(pair(x, one, two)), 0);
-        CHECK.due("(2, 1)", x.first(pair(x, two, one)), 1);
-        CHECK.due("(2, 2)", x.first(pair(x, two, two)), 2);
-        CHECK.due("(1, _)", x.first(pair(x, one, -1)), -1);
+        x.rule(Make.pair(x, one, -1));
+        x.rule(Make.pair(x, -1, one));
+        x.rule(Make.pair(x, -1, -1));
+        CHECK.due("(1, 2)", x.first(Make.pair(x, one, two)), 0);
+        CHECK.due("(2, 1)", x.first(Make.pair(x, two, one)), 1);
+        CHECK.due("(2, 2)", x.first(Make.pair(x, two, two)), 2);
+        CHECK.due("(1, _)", x.first(Make.pair(x, one, -1)), -1);
         x.push(0, one);
         x.push(1, one);
         x.push(2, one);
@@ -214,13 +204,13 @@ public final class RulesTest {
         CHECK.due("no pattern", x.fits(99), false);
         CHECK.due("no pattern", x.fits(-1), false);
         x.rule(any);
-        x.rule(pair(x, one, -1));
-        x.rule(pair(x, -1, letter));
-        CHECK.due("(2, letter), without a tree", x.fits(pair(x, two, letter)), true);
-        CHECK.due("(2, 2)", x.fits(pair(x, two, two)), false);
-        CHECK.due("(letter, letter)", x.fits(pair(x, letter, letter)), false);
+        x.rule(Make.pair(x, one, -1));
+        x.rule(Make.pair(x, -1, letter));
+        CHECK.due("(2, letter), without a tree", x.fits(Make.pair(x, two, letter)), true);
+        CHECK.due("(2, 2)", x.fits(Make.pair(x, two, two)), false);
+        CHECK.due("(letter, letter)", x.fits(Make.pair(x, letter, letter)), false);
         CHECK.due("2", x.fits(two), false);
-        CHECK.due("(2, _), no value", x.fits(pair(x, two, -1)), false);
+        CHECK.due("(2, _), no value", x.fits(Make.pair(x, two, -1)), false);
         x.clear();
         x.rule(x.name(0, -1));
         x.rule(x.name(1, one));

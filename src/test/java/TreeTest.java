@@ -24,16 +24,6 @@ public final class TreeTest {
         CHECK.end();
     }
 
-    private static int pair(RuleTree x, int left, int right) {
-        if (left != RuleTree.NONE) {
-            x.push(0, left);
-        }
-        if (right != RuleTree.NONE) {
-            x.push(1, right);
-        }
-        return x.record(2);
-    }
-
     private static void noRules() {
         CHECK.about("promise 12, no rules");
         RuleTree x = new RuleTree();
@@ -90,10 +80,10 @@ public final class TreeTest {
         int two = x.constant(0, 2);
         int letter = x.constant(1, 7);
         int inLeft = x.built(0, 0, one);
-        x.rule(pair(x, inLeft, letter));
-        x.rule(pair(x, -1, letter));
+        x.rule(Make.pair(x, inLeft, letter));
+        x.rule(Make.pair(x, -1, letter));
         CHECK.due("grow()", x.grow(), 8);
-        int value = pair(x, x.built(0, 0, two), letter);
+        int value = Make.pair(x, x.built(0, 0, two), letter);
         CHECK.due("run", x.run(value), 1);
         CHECK.due("looks at the left, what is in it, the right", x.looks(value), 3);
         CHECK.due("the first missing", x.missing(0x0101, 1), 1);
@@ -145,12 +135,12 @@ public final class TreeTest {
         x.clear();
         int plain = x.name(0, -1);
         int other = x.name(1, -1);
-        x.rule(pair(x, one, plain));
-        x.rule(pair(x, -1, other));
+        x.rule(Make.pair(x, one, plain));
+        x.rule(Make.pair(x, -1, other));
         x.grow();
         int odd = x.name(0, one);
-        CHECK.due("(1, name 0 of 1)", x.run(pair(x, one, odd)), -3);
-        CHECK.due("(2, name 0 of 1), no branch goes by it", x.run(pair(x, x.constant(0, 2), odd)), -1);
+        CHECK.due("(1, name 0 of 1)", x.run(Make.pair(x, one, odd)), -3);
+        CHECK.due("(2, name 0 of 1), no branch goes by it", x.run(Make.pair(x, x.constant(0, 2), odd)), -1);
     }
 
     private static void stuckRecords() {
@@ -160,19 +150,19 @@ public final class TreeTest {
         int two = x.constant(0, 2);
         x.push(0, one);
         int single = x.record(1);
-        int both = pair(x, one, single);
-        x.rule(pair(x, one, -1));
-        x.rule(pair(x, two, single));
+        int both = Make.pair(x, one, single);
+        x.rule(Make.pair(x, one, -1));
+        x.rule(Make.pair(x, two, single));
         CHECK.due("grow()", x.grow(), 6);
         CHECK.due("(1, (1))", x.run(both), 0);
-        CHECK.due("(1, 1), not looked at", x.run(pair(x, one, one)), 0);
-        CHECK.due("(2, (1))", x.run(pair(x, two, single)), 1);
-        CHECK.due("(2, 1)", x.run(pair(x, two, one)), -3);
-        CHECK.due("(2, ())", x.run(pair(x, two, x.record(0))), -3);
-        CHECK.due("(2, (1, (1)))", x.run(pair(x, two, both)), -3);
-        CHECK.due("(2, name of 1), which has a step 1 too", x.run(pair(x, two, x.name(0, one))), -3);
+        CHECK.due("(1, 1), not looked at", x.run(Make.pair(x, one, one)), 0);
+        CHECK.due("(2, (1))", x.run(Make.pair(x, two, single)), 1);
+        CHECK.due("(2, 1)", x.run(Make.pair(x, two, one)), -3);
+        CHECK.due("(2, ())", x.run(Make.pair(x, two, x.record(0))), -3);
+        CHECK.due("(2, (1, (1)))", x.run(Make.pair(x, two, both)), -3);
+        CHECK.due("(2, name of 1), which has a step 1 too", x.run(Make.pair(x, two, x.name(0, one))), -3);
         CHECK.due("(1)", x.run(single), -3);
-        CHECK.due("(3, 1)", x.run(pair(x, x.constant(0, 3), one)), -1);
+        CHECK.due("(3, 1)", x.run(Make.pair(x, x.constant(0, 3), one)), -1);
         x.push(0, one);
         x.push(1, one);
         x.push(2, one);
@@ -185,15 +175,15 @@ public final class TreeTest {
         int any = x.any();
         int one = x.constant(0, 1);
         int two = x.constant(0, 2);
-        x.rule(pair(x, one, one));
-        int ones = pair(x, one, one);
+        x.rule(Make.pair(x, one, one));
+        int ones = Make.pair(x, one, one);
         CHECK.due("no tree", x.looks(ones), -1);
         x.grow();
         CHECK.due("(1, 1)", x.looks(ones), 2);
-        CHECK.due("(1, 2), no rule", x.looks(pair(x, one, two)), 2);
-        CHECK.due("(2, 1), no rule", x.looks(pair(x, two, one)), 1);
+        CHECK.due("(1, 2), no rule", x.looks(Make.pair(x, one, two)), 2);
+        CHECK.due("(2, 1), no rule", x.looks(Make.pair(x, two, one)), 1);
         CHECK.due("stuck at once", x.looks(one), -1);
-        CHECK.due("stuck later", x.looks(pair(x, one, x.name(0, -1))), -1);
+        CHECK.due("stuck later", x.looks(Make.pair(x, one, x.name(0, -1))), -1);
         CHECK.due("no value", x.looks(any), -1);
         CHECK.due("no pattern", x.looks(-1), -1);
         CHECK.due("no pattern", x.looks(x.count(1)), -1);
@@ -207,8 +197,8 @@ public final class TreeTest {
         CHECK.about("promise 17");
         RuleTree x = new RuleTree();
         int one = x.constant(0, 1);
-        x.rule(pair(x, one, one));
-        x.rule(pair(x, -1, one));
+        x.rule(Make.pair(x, one, one));
+        x.rule(Make.pair(x, -1, one));
         CHECK.due("no tree", x.ends(0), -1);
         CHECK.due("no tree", x.ends(-1), -1);
         x.grow();
@@ -231,11 +221,11 @@ public final class TreeTest {
         x.grow();
         CHECK.due("nothing is looked at", x.depth(), 0);
         x.clear();
-        x.rule(pair(x, one, -1));
-        x.rule(pair(x, two, one));
+        x.rule(Make.pair(x, one, -1));
+        x.rule(Make.pair(x, two, one));
         x.grow();
         CHECK.due("two parts on the longest way", x.depth(), 2);
-        x.rule(pair(x, one, two));
+        x.rule(Make.pair(x, one, two));
         CHECK.due("no tree", x.depth(), -1);
     }
 
@@ -316,9 +306,9 @@ public final class TreeTest {
         RuleTree x = new RuleTree();
         int one = x.constant(0, 1);
         int two = x.constant(0, 2);
-        x.rule(pair(x, one, x.name(0, x.any())));
-        x.rule(pair(x, one, -1));
-        x.rule(pair(x, two, x.name(5, -1)));
+        x.rule(Make.pair(x, one, x.name(0, x.any())));
+        x.rule(Make.pair(x, one, -1));
+        x.rule(Make.pair(x, two, x.name(5, -1)));
         x.grow();
         CHECK.due("field 0", x.missing(1, 1), 2);
         CHECK.due("field 1", x.missing(2, 0), 3);
