@@ -41,7 +41,10 @@ public final class ModelTest {
 
     private int due(String call, int got, int want) {
         calls++;
-        check.due("call " + calls + ", " + call, got, want);
+        // What later calls answer is free.
+        if (calls <= CALLS) {
+            check.due("call " + calls + ", " + call, got, want);
+        }
         return want;
     }
 

@@ -50,7 +50,7 @@ public final class RoomTest {
         int big = Make.recordOf(x, 100, 100, Make.recordOf(x, 20, 20, x.constant(0, 5)));
         x.rule(big);
         int last = 0;
-        for (int i = 0; i < 190; i++) {
+        for (int i = 0; i < 90; i++) {
             x.rule(x.count(3) == 1 ? big : x.record(100));
             last = x.grow();
         }
@@ -63,7 +63,7 @@ public final class RoomTest {
         x.rule(big);
         x.grow();
         int last = 0;
-        for (int i = 0; i < 90; i++) {
+        for (int i = 0; i < 75; i++) {
             last = x.run(big) + x.first(big) + x.ends(i) * 0 + x.missing(0x0101, 0) * 0;
             x.looks(big);
         }
