@@ -66,7 +66,7 @@ public final class Promise01NewObjectTest {
     }
 
     private static void nothingPushed() {
-        CHECK.sentence(1, "No families, patterns, rules; nor is anything pushed");
+        CHECK.sentence(1, "No families, patterns, rules .. nor is anything pushed");
         RuleTree x = new RuleTree();
         CHECK.due("count(2)", x.count(2), 0);
         CHECK.due("record(0), with no field from 0 on pushed", x.record(0), 0);

@@ -104,7 +104,10 @@ public final class Promise09RuleTest {
         CHECK.due("not with the second", x.rule(Make.recordWith(x, one, letter, one)), -1);
         CHECK.due("not with the last", x.rule(Make.recordWith(x, one, one, letter)), -1);
         CHECK.due("count(3)", x.count(3), 3);
+        CHECK.due("with none of them", x.rule(Make.recordWith(x, letter, letter, letter)), -1);
         CHECK.due("with all", x.rule(Make.recordWith(x, one, one, one)), 3);
+        CHECK.due("not with the last, in all fields", x.rule(Make.recordWith(x, letter, letter, letter)), -1);
+        CHECK.due("with all", x.rule(Make.recordWith(x, one, one, one)), 4);
     }
 
     private static void rulesThatAreGoneDoNotCount() {

@@ -14,7 +14,9 @@ public final class Promise11ForgetTest {
         whatIsPushedGoes();
         theTreeGoes();
         howManyPatternsThereWere();
+        theirSizesGo();
         asANewObject();
+        asANewObjectForOtherCalls();
         CHECK.end();
     }
 
@@ -119,6 +121,21 @@ public final class Promise11ForgetTest {
         CHECK.due("forget() of 500", x.forget(), 500);
     }
 
+    private static void theirSizesGo() {
+        CHECK.sentence(11, "All .. patterns and rules go .. and their sizes");
+        RuleTree x = new RuleTree();
+        Scenes.HEAVY.accept(x);
+        int heaviest = Scenes.heaviest(x);
+        x.forget();
+        for (int pattern = 0; pattern <= heaviest; pattern++) {
+            x.any();
+        }
+        CHECK.due("a name of what has the number of one of 10,000", x.name(0, heaviest), heaviest + 1);
+        for (int rule = 0; rule < 3; rule++) {
+            CHECK.due("a rule of it", x.rule(heaviest), rule);
+        }
+    }
+
     private static void asANewObject() {
         CHECK.sentence(11, "All families, patterns and rules go, what is pushed, and the tree .. and it is as new");
         for (Consumer<RuleTree> scene : Scenes.ALL) {
@@ -128,12 +145,20 @@ public final class Promise11ForgetTest {
             CHECK.due("forget()", x.forget(), patterns);
             Twins.alike(CHECK, "after forget()", x, new RuleTree());
         }
-        RuleTree x = new RuleTree();
-        Scenes.HEAVY.accept(x);
-        x.forget();
-        RuleTree rich = new RuleTree();
-        Scenes.RICH.accept(x);
-        Scenes.RICH.accept(rich);
-        Twins.alike(CHECK, "after forget() and other calls", x, rich);
+    }
+
+    private static void asANewObjectForOtherCalls() {
+        CHECK.sentence(11, "All .. go .. and other calls find it as new");
+        for (Consumer<RuleTree> before : Scenes.ALL) {
+            for (Consumer<RuleTree> after : Scenes.ALL) {
+                RuleTree x = new RuleTree();
+                RuleTree other = new RuleTree();
+                before.accept(x);
+                x.forget();
+                after.accept(x);
+                after.accept(other);
+                Twins.alike(CHECK, "after forget() and other calls", x, other);
+            }
+        }
     }
 }

@@ -7,6 +7,7 @@ public final class Promise15FirstTest {
 
     public static void main(String[] args) {
         theFirstRule();
+        behindOneThatDiffersInAllFields();
         eachAsItStands();
         withoutATree();
         noneWhenThereIsNone();
@@ -36,7 +37,23 @@ public final class Promise15FirstTest {
             x.rule(x.constant(0, rule + 1));
         }
         CHECK.due("2, the second of 200", x.first(two), 1);
+        CHECK.due("201, none of 200", x.first(x.constant(0, 201)), -1);
         CHECK.due("200, the last of 200", x.first(x.constant(0, 200)), 199);
+    }
+
+    private static void behindOneThatDiffersInAllFields() {
+        CHECK.sentence(15, "The first rule whose pattern matches .. behind some that do not, in any field");
+        RuleTree x = new RuleTree();
+        int one = x.constant(0, 1);
+        int two = x.constant(0, 2);
+        int three = x.constant(0, 3);
+        x.rule(Make.recordWith(x, one, one, one));
+        x.rule(Make.recordWith(x, two, one, two));
+        x.rule(Make.recordWith(x, two, two, two));
+        CHECK.due("(2, 2, 2)", x.first(Make.recordWith(x, two, two, two)), 2);
+        CHECK.due("(3, 3, 3)", x.first(Make.recordWith(x, three, three, three)), -1);
+        CHECK.due("(1, 1, 1)", x.first(Make.recordWith(x, one, one, one)), 0);
+        CHECK.due("(2, 1, 2)", x.first(Make.recordWith(x, two, one, two)), 1);
     }
 
     private static void eachAsItStands() {

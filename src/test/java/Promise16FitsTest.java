@@ -70,6 +70,9 @@ public final class Promise16FitsTest {
         CHECK.due("not with the first", x.fits(Make.recordWith(x, letter, one, one)), false);
         CHECK.due("not with the second", x.fits(Make.recordWith(x, one, letter, one)), false);
         CHECK.due("not with the last", x.fits(Make.recordWith(x, one, one, letter)), false);
+        x.rule(Make.recordWith(x, one, one, one));
+        CHECK.due("with none", x.fits(Make.recordWith(x, letter, letter, letter)), false);
+        CHECK.due("with all", x.fits(Make.recordWith(x, one, one, one)), true);
     }
 
     private static void falseForNoSuchPattern() {

@@ -20,6 +20,7 @@ public final class TermsMissingValueTest {
         recordsInRecords();
         recordsInArguments();
         ofTheTreeThatThereIs();
+        notOfATreeBefore();
         CHECK.end();
     }
 
@@ -273,5 +274,28 @@ public final class TermsMissingValueTest {
         x.rule(x.any());
         x.grow();
         CHECK.due("nothing", x.missing(0, 0), -1);
+    }
+
+    /** The tree before has more branches at each node and more nodes. */
+    private static void notOfATreeBefore() {
+        CHECK.term("THE MISSING VALUE .. whatever tree there was before");
+        RuleTree x = new RuleTree();
+        int[] numbers = new int[12];
+        for (int number = 0; number < 12; number++) {
+            numbers[number] = x.constant(0, number);
+            x.rule(numbers[number]);
+        }
+        CHECK.due("grow()", x.grow(), 14);
+        CHECK.due("the least", x.missing(0, 1), 12);
+        x.clear();
+        x.rule(Make.pair(x, numbers[5], numbers[7]));
+        x.rule(Make.pair(x, numbers[6], numbers[0]));
+        CHECK.due("grow()", x.grow(), 8);
+        CHECK.due("field 0", x.missing(1, 1), 5);
+        CHECK.due("field 1", x.missing(2, 1), 0);
+        CHECK.due("ends(-1)", x.ends(-1), 3);
+        CHECK.due("depth()", x.depth(), 2);
+        CHECK.due("run", x.run(Make.pair(x, numbers[6], numbers[0])), 1);
+        CHECK.due("run", x.run(Make.pair(x, numbers[6], numbers[1])), -1);
     }
 }
