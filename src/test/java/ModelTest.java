@@ -1,28 +1,19 @@
-import java.util.Random;
-
 /** Many runs of calls, the same each time, on the class and on the model; each answer must be the same. */
-public final class ModelTest {
+public final class ModelTest extends TypedRun {
     private static final int RUNS = 3000;
     private static final int CALLS = 512;
-    private static final int LEVELS = 5;
     private static final int[] ODD = {
         Integer.MIN_VALUE, Integer.MIN_VALUE + 1, -3, -2, -1, 0, 1, 2, 3, 4, 5, 63, 64, 65, 127, 128, 129,
         255, 256, 1024, 16384, Integer.MAX_VALUE - 1, Integer.MAX_VALUE};
 
     private final Check check;
-    private final Random random;
     private final RuleTree x = new RuleTree();
     private final Model model = new Model();
     private int calls = 0;
 
-    /** The kinds of values of a run: 0 .. 3 a constant, 4 a family, 5 names, 6 a record. */
-    private int[] types;
-    private int[] numbers;
-    private int[][] inner;
-
     private ModelTest(Check check, long seed) {
+        super(seed, true);
         this.check = check;
-        random = new Random(seed);
     }
 
     public static void main(String[] args) {
@@ -48,10 +39,6 @@ public final class ModelTest {
         return want;
     }
 
-    private int below(int bound) {
-        return random.nextInt(bound);
-    }
-
     private int odd() {
         return below(3) == 0 ? ODD[below(ODD.length)] : below(6) - 1;
     }
@@ -59,6 +46,11 @@ public final class ModelTest {
     private int someNumber() {
         int made = model.count(1);
         return below(8) == 0 || made == 0 ? odd() : made - 1 - below(Math.min(made, 12));
+    }
+
+    @Override
+    boolean isShort() {
+        return calls > CALLS - 20;
     }
 
     private void runOddly() {
@@ -70,7 +62,7 @@ public final class ModelTest {
     private void callOddly(int which) {
         switch (which) {
             case 0:
-                family(odd(), below(2) == 0 ? random.nextLong() >>> below(64) : below(4));
+                family(odd(), below(2) == 0 ? someLong() >>> below(64) : below(4));
                 break;
             case 1:
                 any();
@@ -152,7 +144,7 @@ public final class ModelTest {
 
     private long somePath() {
         if (below(20) == 0) {
-            return random.nextLong();
+            return someLong();
         }
         long path = 0;
         for (int step = below(5); step > 0; step--) {
@@ -193,90 +185,39 @@ public final class ModelTest {
         }
     }
 
-    private void makeTypes() {
-        int many = 2 + below(5);
-        types = new int[many];
-        numbers = new int[many];
-        inner = new int[many][];
-        for (int type = 0; type < many; type++) {
-            types[type] = type == 0 ? Math.min(4 + below(6), 6) : below(7);
-            int fields = type == 0 ? 2 + below(5) : below(4);
-            int arms = types[type] == 4 ? 1 + below(4) : types[type] == 5 ? 4 : fields;
-            inner[type] = new int[arms];
-            long mask = 0;
-            for (int arm = 0; arm < arms; arm++) {
-                boolean with = types[type] == 6 || below(2) == 0;
-                inner[type][arm] = with ? below(many) : -1;
-                mask |= with ? 1L << arm : 0;
-            }
-            if (types[type] == 4) {
-                numbers[type] = family(arms, mask);
-            }
-        }
-        family(1, 0);
-    }
-
-    /** Makes a pattern, or a value, of a type; now and then one of another type, or what is too deep. */
-    private int patternOf(int wanted, int levels, boolean withAny) {
-        int type = below(60) == 0 ? below(types.length) : wanted;
-        // A rule that takes all leaves little to look at and nothing missing, so it is rare.
-        if (withAny && below(levels == LEVELS ? 30 : 4) == 0) {
-            return any();
-        }
-        if (levels <= 0 || calls > CALLS - 20) {
-            return withAny ? any() : constant(0, 0);
-        }
-        if (types[type] < 4) {
-            return constant(types[type], below(3) - (types[type] == 2 ? 0 : 1));
-        }
-        if (types[type] == 6) {
-            return recordOf(type, levels, withAny);
-        }
-        int arm = below(inner[type].length);
-        int of = inner[type][arm] < 0 ? -1 : patternOf(inner[type][arm], levels - 1, withAny);
-        return types[type] == 4 ? built(numbers[type], arm, of) : name(arm, of);
-    }
-
-    private int recordOf(int type, int levels, boolean withAny) {
-        int[] made = new int[inner[type].length];
-        for (int field = 0; field < made.length; field++) {
-            boolean left = withAny && below(4) == 0 || below(100) == 0;
-            made[field] = left ? -1 : patternOf(inner[type][field], levels - 1, withAny);
-        }
-        for (int field = made.length - 1; field >= 0; field--) {
-            if (made[field] >= 0) {
-                push(field, made[field]);
-            }
-        }
-        return record(made.length);
-    }
-
-    private int family(int n, long arguments) {
+    @Override
+    int family(int n, long arguments) {
         return due("family(" + n + ", " + arguments + ")", x.family(n, arguments), model.family(n, arguments));
     }
 
-    private int any() {
+    @Override
+    int any() {
         return due("any()", x.any(), model.any());
     }
 
-    private int constant(int kind, int value) {
+    @Override
+    int constant(int kind, int value) {
         return due("constant(" + kind + ", " + value + ")", x.constant(kind, value), model.constant(kind, value));
     }
 
-    private int built(int family, int tag, int of) {
+    @Override
+    int built(int family, int tag, int of) {
         return due("built(" + family + ", " + tag + ", " + of + ")", x.built(family, tag, of),
             model.built(family, tag, of));
     }
 
-    private int name(int e, int of) {
+    @Override
+    int name(int e, int of) {
         return due("name(" + e + ", " + of + ")", x.name(e, of), model.name(e, of));
     }
 
-    private int push(int field, int pattern) {
+    @Override
+    int push(int field, int pattern) {
         return due("push(" + field + ", " + pattern + ")", x.push(field, pattern), model.push(field, pattern));
     }
 
-    private int record(int n) {
+    @Override
+    int record(int n) {
         return due("record(" + n + ")", x.record(n), model.record(n));
     }
 
