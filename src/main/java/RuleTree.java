@@ -124,7 +124,7 @@ public final class RuleTree {
     }
 
     public int rule(int pattern) {
-        if (!patterns.has(pattern) || !goesWithRules(pattern)) {
+        if (!patterns.has(pattern) || !pairs.goWith(rules, pattern)) {
             return NONE;
         }
         int weight = rulesWeight + patterns.weight(pattern);
@@ -187,7 +187,7 @@ public final class RuleTree {
     }
 
     public boolean fits(int value) {
-        return patterns.isValue(value) && goesWithRules(value);
+        return patterns.isValue(value) && pairs.goWith(rules, value);
     }
 
     public int ends(int rule) {
@@ -224,14 +224,6 @@ public final class RuleTree {
 
     private boolean hasTree() {
         return grown > 0;
-    }
-
-    private boolean goesWithRules(int pattern) {
-        boolean good = true;
-        for (int rule = 0; good && rule < rules.size(); rule++) {
-            good = pairs.goTogether(rules.at(rule), pattern);
-        }
-        return good;
     }
 
     private void dropRules() {
@@ -537,43 +529,31 @@ public final class RuleTree {
             return hold(pattern, value, true);
         }
 
-        boolean goTogether(int one, int other) {
-            return hold(one, other, false);
-        }
-
-        private boolean hold(int one, int other, boolean matching) {
-            open.empty();
-            putPair(one, other);
+        /** Whether all of these go together with a pattern. */
+        boolean goWith(Row all, int pattern) {
             boolean good = true;
-            for (int steps = 0; good && open.size() > 0 && steps < MOST_STEPS; steps++) {
-                int right = open.take();
-                int left = open.take();
-                good = matching ? matchesHere(left, right) : goesHere(left, right);
+            for (int i = 0; good && i < all.size(); i++) {
+                good = hold(all.at(i), pattern, false);
             }
             return good;
         }
 
-        private void putPair(int left, int right) {
-            open.add(left);
-            open.add(right);
-        }
-
-        private boolean matchesHere(int pattern, int value) {
-            if (patterns.shape(pattern) == ANY) {
-                return true;
+        /** ANY on either side is taken for a match too, for a value has none. */
+        private boolean hold(int one, int other, boolean matching) {
+            open.empty();
+            open.add(one);
+            open.add(other);
+            boolean good = true;
+            for (int steps = 0; good && open.size() > 0 && steps < MOST_STEPS; steps++) {
+                int right = open.take();
+                int left = open.take();
+                if (patterns.shape(left) == ANY || patterns.shape(right) == ANY) {
+                    continue;
+                }
+                boolean sameMark = patterns.mark(left) == patterns.mark(right);
+                good = sameSort(left, right) && (sameMark ? putInner(left, right) : !matching);
             }
-            return sameSort(pattern, value) && patterns.mark(pattern) == patterns.mark(value)
-                && putInner(pattern, value);
-        }
-
-        private boolean goesHere(int one, int other) {
-            if (patterns.shape(one) == ANY || patterns.shape(other) == ANY) {
-                return true;
-            }
-            if (!sameSort(one, other)) {
-                return false;
-            }
-            return patterns.mark(one) != patterns.mark(other) || putInner(one, other);
+            return good;
         }
 
         private boolean sameSort(int one, int other) {
@@ -591,7 +571,8 @@ public final class RuleTree {
             if (left == NONE || right == NONE) {
                 return left == right;
             }
-            putPair(left, right);
+            open.add(left);
+            open.add(right);
             return true;
         }
 
@@ -604,7 +585,8 @@ public final class RuleTree {
                     right++;
                 }
                 if (right < patterns.width(other) && patterns.fieldNumber(other, right) == field) {
-                    putPair(patterns.fieldPattern(one, left), patterns.fieldPattern(other, right));
+                    open.add(patterns.fieldPattern(one, left));
+                    open.add(patterns.fieldPattern(other, right));
                 }
             }
         }
@@ -1011,24 +993,14 @@ public final class RuleTree {
             nodes.empty();
             int node = enter(NONE, NONE);
             for (int steps = 0; node != NONE && nodes.size() <= MOST_NODES && steps < MOST_STEPS; steps++) {
-                node = goOn(node);
+                int edge = nextEdge(node);
+                node = edge == NONE && !othersLeft(node) ? leave(node) : enter(node, edge);
             }
             return nodes.size() > MOST_NODES ? FULL : nodes.size();
         }
 
-        private int goOn(int node) {
-            if (nodes.part(node) == NONE) {
-                return leave(node);
-            }
-            int edge = nextEdge(node);
-            if (edge == NONE && !othersLeft(node)) {
-                return leave(node);
-            }
-            ruleOut(node, edge);
-            return enter(node, edge);
-        }
-
         private int enter(int upper, int edge) {
+            ruleOut(upper, edge);
             int node = nodes.add(upper, edge);
             int before = nodes.ruleAt(upper);
             int rule = firstPossible(Math.max(before, 0));
@@ -1070,7 +1042,7 @@ public final class RuleTree {
             return NONE;
         }
 
-        /** The next edge that some possible rule asks for, after the branches that the node has. */
+        /** The next edge that some possible rule asks for, after the branches that the node has; none of an end. */
         private int nextEdge(int node) {
             int last = nodes.lastBranch(node);
             int edge = last == NONE ? parts.firstEdge(nodes.part(node)) : parts.nextEdge(nodes.edge(last));
@@ -1092,11 +1064,11 @@ public final class RuleTree {
         }
 
         private boolean othersLeft(int node) {
+            int part = nodes.part(node);
             int last = nodes.lastBranch(node);
-            if (last != NONE && nodes.edge(last) == NONE) {
+            if (part == NONE || last != NONE && nodes.edge(last) == NONE) {
                 return false;
             }
-            int part = nodes.part(node);
             if (parts.shape(part) == BUILT) {
                 return nodes.branches(node) < families.tags(parts.sort(part));
             }
@@ -1104,6 +1076,7 @@ public final class RuleTree {
             return !bytes || nodes.branches(node) < BYTE_NUMBERS;
         }
 
+        /** Nothing is ruled out on the way to the root, which has no node above it. */
         private void ruleOut(int node, int taken) {
             int edge = parts.firstEdge(nodes.part(node));
             for (int left = parts.edges(); left > 0 && edge != NONE; left--) {

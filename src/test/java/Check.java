@@ -33,6 +33,14 @@ final class Check {
         due(call, got ? 1 : 0, want ? 1 : 0);
     }
 
+    void due(String call, String got, String want) {
+        asked++;
+        if (!got.equals(want)) {
+            wrong++;
+            System.out.println(about + ": " + call + " answered " + got + ", due is " + want);
+        }
+    }
+
     /** Two lists of calls with their answers; the first difference is printed. */
     void same(String when, List<String> got, List<String> want) {
         for (int i = 0; i < Math.min(got.size(), want.size()); i++) {
