@@ -1,17 +1,11 @@
-import com.sun.source.tree.AssertTree;
 import com.sun.source.tree.BinaryTree;
 import com.sun.source.tree.ClassTree;
 import com.sun.source.tree.CompilationUnitTree;
-import com.sun.source.tree.LambdaExpressionTree;
 import com.sun.source.tree.LiteralTree;
-import com.sun.source.tree.MemberReferenceTree;
 import com.sun.source.tree.MethodInvocationTree;
 import com.sun.source.tree.MethodTree;
 import com.sun.source.tree.NewClassTree;
-import com.sun.source.tree.SynchronizedTree;
-import com.sun.source.tree.ThrowTree;
 import com.sun.source.tree.Tree;
-import com.sun.source.tree.TryTree;
 import com.sun.source.tree.VariableTree;
 import com.sun.source.util.JavacTask;
 import com.sun.source.util.TreePathScanner;
@@ -40,6 +34,9 @@ public final class LanguageTest extends TreePathScanner<Void, Void> {
     private static final Set<String> LIBRARY = Set.of("java.lang.Object.Object", "java.lang.System.arraycopy",
         "java.util.Arrays.copyOf", "java.util.Arrays.copyOfRange", "java.util.Arrays.fill");
     private static final Set<String> NUMBER_CLASSES = Set.of("java.lang.Math", "java.lang.Integer", "java.lang.Long");
+    /** The document asks for no exception, so there is none to throw or to catch. */
+    private static final Set<Tree.Kind> REFUSED = Set.of(Tree.Kind.LAMBDA_EXPRESSION, Tree.Kind.MEMBER_REFERENCE,
+        Tree.Kind.THROW, Tree.Kind.TRY, Tree.Kind.SYNCHRONIZED, Tree.Kind.ASSERT);
     private static final Check CHECK = new Check();
 
     private final Trees trees;
@@ -188,39 +185,12 @@ public final class LanguageTest extends TreePathScanner<Void, Void> {
     }
 
     @Override
-    public Void visitLambdaExpression(LambdaExpressionTree tree, Void none) {
-        return refuse(2, "no lambda", tree);
-    }
-
-    @Override
-    public Void visitMemberReference(MemberReferenceTree tree, Void none) {
-        return refuse(2, "no method reference", tree);
-    }
-
-    @Override
-    public Void visitThrow(ThrowTree tree, Void none) {
-        return refuse(6, "A call of the face throws exactly what and where the document says", tree);
-    }
-
-    @Override
-    public Void visitTry(TryTree tree, Void none) {
-        return refuse(6, "try .. round calls of methods that throw", tree);
-    }
-
-    @Override
-    public Void visitSynchronized(SynchronizedTree tree, Void none) {
-        return refuse(6, "No synchronized", tree);
-    }
-
-    @Override
-    public Void visitAssert(AssertTree tree, Void none) {
-        return refuse(6, "No .. assert", tree);
-    }
-
-    private Void refuse(int number, String words, Tree tree) {
-        rule(number, words);
-        CHECK.due(tree.toString(), true, false);
-        return null;
+    public Void scan(Tree tree, Void none) {
+        if (tree != null && REFUSED.contains(tree.getKind())) {
+            CHECK.about("LANGUAGE.md, rules 2 and 6, what has no place in the class");
+            CHECK.due(tree.getKind() + ": " + tree, true, false);
+        }
+        return super.scan(tree, none);
     }
 
     @Override
